@@ -14,6 +14,8 @@ public final class TournamentDesk {
     private static final int LEAST_PLAYERS = 2;
     private static final int MOST_PLAYERS = 10;
     private static final int FIRST_PLAYERS = 4;
+    private static final int HALF = 5;
+    private static final int LOW_HALF = 31;
     private static final int MOST_WEIGHT = 100;
     private static final int MOST_STATES = 8;
     private static final int MOST_NUMBERS = 10;
@@ -487,15 +489,9 @@ public final class TournamentDesk {
             return count;
         }
 
-        /** The weights of all pairs of the player with those of the others who beat this player. */
-        int weightAgainst(int player, int others) {
-            int left = others & beatersOf(player);
-            int sum = 0;
-            for (int turn = 0; turn < MOST_PLAYERS && left != 0; turn++) {
-                sum += weightOf(player, lowestOf(left));
-                left &= left - 1;
-            }
-            return sum;
+        /** What it costs that a player stands before another one in an order. */
+        int costOfBefore(int player, int other) {
+            return wins(other, player) ? weightOf(player, other) : 0;
         }
     }
 
@@ -908,22 +904,18 @@ public final class TournamentDesk {
 
         /** The paths through all players before and then to the last one. */
         private int countEnding(Board board, int before, int last) {
-            return before == 0 ? 1 : sumOfCounts(before, before & board.beatersOf(last));
+            return before == 0 ? 1 : sumOfCounts(before, before & ~board.beatenBy(last));
         }
 
         private int sumOfCounts(int set, int lastOnes) {
             int left = lastOnes;
             int sum = 0;
             for (int turn = 0; turn < MOST_PLAYERS && left != 0; turn++) {
-                sum += countOf(set, lowestOf(left));
+                int place = set * MOST_PLAYERS + lowestOf(left);
+                sum += place >= 0 && place < counts.length ? counts[place] : 0;
                 left &= left - 1;
             }
             return sum;
-        }
-
-        private int countOf(int set, int last) {
-            int place = set * MOST_PLAYERS + last;
-            return place >= 0 && place < counts.length ? counts[place] : 0;
         }
 
         private void putCount(int set, int last, int count) {
@@ -937,6 +929,8 @@ public final class TournamentDesk {
     /** Cycles of a given length through a player. */
     private static final class Cycle {
         private final int[] found = new int[MOST_PLAYERS];
+        // For each set of players who are still free: the last players from whom no cycle was closed.
+        private final int[] failed = new int[1 << MOST_PLAYERS];
 
         int playerAt(int place) {
             return place >= 0 && place < found.length ? found[place] : NOT_FOUND;
@@ -952,26 +946,33 @@ public final class TournamentDesk {
             if (Integer.bitCount(part) < length) {
                 return false;
             }
+            for (int set = 0; set <= part && set < failed.length; set++) {
+                failed[set] = 0;
+            }
             found[0] = player;
-            return extend(board, found, without(part, player), 1, length);
+            return extend(board, found, failed, without(part, player), 1, length);
         }
 
-        private static boolean extend(Board board, int[] cycle, int free, int depth, int length) {
-            if (depth < 1 || depth > length || depth > cycle.length) {
+        private static boolean extend(Board board, int[] cycle, int[] failed, int free, int depth, int length) {
+            if (depth < 1 || depth > length || depth > cycle.length || free < 0 || free >= failed.length) {
                 return false;
             }
             int last = cycle[depth - 1];
             if (depth == length) {
                 return board.wins(last, cycle[0]);
             }
+            if (holds(failed[free], last)) {
+                return false;
+            }
             for (int next = 0; next < board.size() && depth < cycle.length; next++) {
                 if (holds(free, next) && board.wins(last, next)) {
                     cycle[depth] = next;
-                    if (extend(board, cycle, without(free, next), depth + 1, length)) {
+                    if (extend(board, cycle, failed, without(free, next), depth + 1, length)) {
                         return true;
                     }
                 }
             }
+            failed[free] |= only(last);
             return false;
         }
     }
@@ -979,6 +980,9 @@ public final class TournamentDesk {
     /** Orders with the least cost; it is asked about one board only, whose stamp tells what is stale. */
     private static final class Orders {
         private final int[] least = new int[1 << MOST_PLAYERS];
+        // The cost of a player before a set, as two sums, for there are but 32 sets of low or of high numbers.
+        private final int[] lowCosts = new int[MOST_PLAYERS << HALF];
+        private final int[] highCosts = new int[MOST_PLAYERS << HALF];
         private int knownStamp;
 
         private void learn(Board board) {
@@ -986,31 +990,54 @@ public final class TournamentDesk {
                 return;
             }
             knownStamp = board.stamp();
+            for (int player = 0; player < board.size(); player++) {
+                for (int half = 1; half < 1 << HALF; half++) {
+                    sumCosts(board, player, half);
+                }
+            }
             int all = board.everyone();
             for (int set = 1; set <= all && set < least.length; set++) {
-                int cost = Integer.MAX_VALUE;
-                for (int first = 0; first < board.size(); first++) {
-                    if (holds(set, first)) {
-                        cost = Math.min(cost, costWithFirst(board, set, first));
-                    }
-                }
-                least[set] = cost;
+                least[set] = leastWithin(board.size(), set);
             }
+        }
+
+        private void sumCosts(Board board, int player, int half) {
+            int place = (player << HALF) + half;
+            int smaller = (player << HALF) + (half & half - 1);
+            int lowest = lowestOf(half);
+            if (smaller >= 0 && smaller < place && place < lowCosts.length && place < highCosts.length) {
+                lowCosts[place] = lowCosts[smaller] + board.costOfBefore(player, lowest);
+                highCosts[place] = highCosts[smaller] + board.costOfBefore(player, lowest + HALF);
+            }
+        }
+
+        private int leastWithin(int players, int set) {
+            int cost = Integer.MAX_VALUE;
+            for (int first = 0; first < players; first++) {
+                if (holds(set, first)) {
+                    cost = Math.min(cost, costWithFirst(set, first));
+                }
+            }
+            return cost;
+        }
+
+        private int costWithFirst(int set, int first) {
+            int low = (first << HALF) + (set & LOW_HALF);
+            int high = (first << HALF) + (set >> HALF);
+            if (low < 0 || low >= lowCosts.length || high < 0 || high >= highCosts.length) {
+                return 0;
+            }
+            return leastFor(without(set, first)) + lowCosts[low] + highCosts[high];
         }
 
         private int leastFor(int set) {
             return set >= 0 && set < least.length ? least[set] : 0;
         }
 
-        private int costWithFirst(Board board, int set, int first) {
-            int rest = without(set, first);
-            return leastFor(rest) + board.weightAgainst(first, rest);
-        }
-
-        private int firstOnesWithin(Board board, int set) {
+        private int firstOnesWithin(int players, int set) {
             int firstOnes = 0;
-            for (int first = 0; first < board.size(); first++) {
-                if (holds(set, first) && costWithFirst(board, set, first) == leastFor(set)) {
+            for (int first = 0; first < players; first++) {
+                if (holds(set, first) && costWithFirst(set, first) == leastFor(set)) {
                     firstOnes |= only(first);
                 }
             }
@@ -1024,16 +1051,16 @@ public final class TournamentDesk {
 
         int firstOnes(Board board) {
             learn(board);
-            return firstOnesWithin(board, board.everyone());
+            return firstOnesWithin(board.size(), board.everyone());
         }
 
         int playerAt(Board board, int place) {
             learn(board);
             int left = board.everyone();
             for (int before = 0; before < place && before < MOST_PLAYERS; before++) {
-                left = without(left, lowestOf(firstOnesWithin(board, left)));
+                left = without(left, lowestOf(firstOnesWithin(board.size(), left)));
             }
-            return lowestOf(firstOnesWithin(board, left));
+            return lowestOf(firstOnesWithin(board.size(), left));
         }
     }
 
