@@ -281,6 +281,12 @@ public final class PromisesTest {
         dueResults("6", "12,23,3,0");
         due("6 least of two", x.reversePath(0, 3), 2);
         dueResults("6", "2,02,3,01");
+        x.undo();
+        due("6 through the first player", x.reversePath(3, 1), 2);
+        dueResults("6", "23,023,3,");
+        x.undo();
+        due("6 three steps", x.reversePath(2, 1), 3);
+        dueResults("6", "23,023,,2");
         fresh();
         due("6 no path", x.reversePath(3, 0), NOT_POSSIBLE);
         due("6 no path", x.reversePath(1, 0), NOT_POSSIBLE);
