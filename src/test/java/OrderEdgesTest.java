@@ -99,6 +99,12 @@ public final class OrderEdgesTest {
             + " leastCost() = 1; orderAt(0) = 0; '0>1;1>2;0>2;' enter(); leastCost() = 0; orderAt(0) = 0;"
             + " recall(); leastCost() = 0; orderAt(3) = 3; reset(10); leastCost() = 0; orderAt(9) = 9; undo();"
             + " orderAt(9) = -1; leastCost() = 0; undo(); undo(); leastCost() = 1");
+        Told.due("32 after a question, a change and a recall", "setResult(3, 0); setWeight(0, 3, 9); leastCost() = 2;"
+            + " setWeight(0, 1, 5); recall(); leastCost() = 0; orderAt(0) = 0; winners(4) = 1");
+        Told.due("32 after a question, a change and an undo", "leastCost() = 0; setResult(3, 0); leastCost() = 1;"
+            + " undo(); leastCost() = 0; setWeight(0, 1, 9); undo(); setResult(3, 0); leastCost() = 1; undo();"
+            + " setResult(2, 0); leastCost() = 1; orderAt(1) = 1; reset(3); undo(); leastCost() = 1; reset(4);"
+            + " leastCost() = 0");
     }
 
     // ---- places

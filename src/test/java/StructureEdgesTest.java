@@ -53,6 +53,7 @@ public final class StructureEdgesTest {
         cycleAt30NotFound();
         cycleAt30Precedence();
         cycleAt30Least();
+        cycleAt30OneAfterTheOther();
         cycleOfAtLeast3();
     }
 
@@ -295,6 +296,23 @@ public final class StructureEdgesTest {
             + " cycleAt(0, 4, 2) = 2; cycleAt(0, 4, 3) = 3; cycleAt(0, 3, 2) = 2; cycleAt(0, 5, 3) = 3");
         Told.due("30 ladder", Told.of(Told.ladder(10)) + "; cycleAt(9, 10, 0) = 9; cycleAt(9, 10, 1) = 0;"
             + " cycleAt(9, 10, 9) = 8; cycleAt(5, 3, 1) = 3; cycleAt(5, 3, 2) = 4; cycleAt(0, 10, 9) = 9");
+    }
+
+    /** Promise 30: each answer is of the present tournament, whatever was asked before. */
+    private static void cycleAt30OneAfterTheOther() {
+        for (String all : new String[] {MOST_PATHS, PARTS, Told.ladder(10), Told.circle(9)}) {
+            StringBuilder run = new StringBuilder(Told.of(all));
+            for (String change : new String[] {"players()", "reversePlayer(5)", "exchange(0, 8)", "reversePath(1, 2)"}) {
+                run.append("; ").append(change);
+                for (int player = 0; player < all.split(",").length; player++) {
+                    for (int length = all.split(",").length; length >= 3; length--) {
+                        run.append("; cycleAt(").append(player).append(", ").append(length).append(", ")
+                            .append(player % 2 == 0 ? 1 : length - 1).append(")");
+                    }
+                }
+            }
+            Told.due("30 one after the other", run.toString());
+        }
     }
 
     /** Tournament: "A cycle of length k, at least 3, is a path of k players of which the last one beats the first". */

@@ -1,4 +1,5 @@
 import java.util.ArrayList;
+import java.util.Arrays;
 import java.util.List;
 import java.util.regex.Matcher;
 import java.util.regex.Pattern;
@@ -14,6 +15,14 @@ final class Told {
     private static final int MOST_CALLS = 512;
     private static final Pattern STEP = Pattern.compile("'([^']*)'|\\[([\\d ]+)\\]|all = ([\\d,-]+)|(ones)"
         + "|(\\w+)\\(([^)]*)\\)(?: = (-?\\d+))?|[;\\s]+|(\\S+)");
+
+    /** A call with the answer that is due, or null if none is told; "ones" stands for all weights being 1. */
+    record Step(String name, int[] arguments, Integer due) {
+        @Override
+        public String toString() {
+            return name + Arrays.toString(arguments);
+        }
+    }
 
     private final String what;
     private final Calls desk = Calls.ofDesk();
@@ -104,78 +113,77 @@ final class Told {
         return all.toString();
     }
 
-    private void follow(String run) {
+    static List<Step> steps(String run) {
+        List<Step> steps = new ArrayList<>();
         Matcher step = STEP.matcher(run);
         while (step.find()) {
             if (step.group(1) != null) {
-                type(step.group(1));
+                step.group(1).chars().forEach(character -> add(steps, null, "type", character));
             } else if (step.group(2) != null) {
-                append(step.group(2));
+                Arrays.stream(step.group(2).split(" ")).forEach(n -> add(steps, null, "append", number(n)));
             } else if (step.group(3) != null) {
-                all(step.group(3));
+                addAll(steps, step.group(3).split(","));
             } else if (step.group(4) != null) {
-                ones();
+                add(steps, null, "ones");
             } else if (step.group(5) != null) {
-                call(step.group(5), step.group(6), step.group(7));
+                Integer due = step.group(7) == null ? null : Integer.valueOf(step.group(7));
+                add(steps, due, step.group(5), numbers(step.group(6)));
             } else if (step.group(8) != null) {
                 throw new IllegalArgumentException("not told well: " + step.group(8) + " in " + run);
             }
         }
+        return steps;
     }
 
-    private int make(String name, int... arguments) {
-        int answer = desk.make(name, arguments);
-        String call = name + java.util.Arrays.toString(arguments);
-        Check.due(what + ": call " + desk.made() + " " + call + ", retold", answer, naive.make(name, arguments));
-        answers.add(answer);
-        return answer;
+    private static void add(List<Step> steps, Integer due, String name, int... arguments) {
+        steps.add(new Step(name, arguments, due));
     }
 
-    private void type(String text) {
-        for (char character : text.toCharArray()) {
-            make("type", character);
+    private static void addAll(List<Step> steps, String[] beaten) {
+        add(steps, beaten.length, "players");
+        for (int a = 0; a < beaten.length; a++) {
+            for (int b = 0; b < beaten.length; b++) {
+                add(steps, beaten[a].indexOf('0' + b) >= 0 ? 1 : 0, "beats", a, b);
+            }
         }
     }
 
-    private void append(String numbers) {
-        for (String number : numbers.split(" ")) {
-            make("append", Integer.parseInt(number));
-        }
-    }
-
-    private void call(String name, String arguments, String want) {
+    private static int[] numbers(String arguments) {
         String[] words = arguments.isEmpty() ? new String[0] : arguments.split(", ");
-        int[] given = new int[words.length];
-        for (int i = 0; i < words.length; i++) {
-            given[i] = number(words[i]);
-        }
-        int answer = make(name, given);
-        if (want != null) {
-            Check.due(what + ": call " + desk.made() + " " + name + "(" + arguments + ")", answer, number(want));
-        }
+        return Arrays.stream(words).mapToInt(Told::number).toArray();
     }
 
     private static int number(String word) {
         return word.equals("MIN") ? Integer.MIN_VALUE : word.equals("MAX") ? Integer.MAX_VALUE : Integer.parseInt(word);
     }
 
-    private void all(String want) {
-        String[] beaten = want.split(",");
-        Check.due(what + ": players", make("players"), beaten.length);
-        for (int a = 0; a < beaten.length; a++) {
-            for (int b = 0; b < beaten.length; b++) {
-                int due = beaten[a].indexOf('0' + b) >= 0 ? 1 : 0;
-                Check.due(what + ": " + want + ": beats(" + a + ", " + b + ")", make("beats", a, b), due);
+    private void follow(String run) {
+        for (Step step : steps(run)) {
+            if (step.name.equals("ones")) {
+                ones();
+            } else {
+                make(step);
             }
         }
     }
 
+    private int make(Step step) {
+        int answer = desk.make(step.name, step.arguments);
+        String call = what + ": call " + desk.made() + " " + step;
+        if (step.due != null) {
+            Check.due(call, answer, step.due);
+        }
+        Check.due(call + ", retold", answer, naive.make(step.name, step.arguments));
+        answers.add(answer);
+        return answer;
+    }
+
     private void ones() {
-        int n = make("players");
+        int n = make(new Step("players", new int[0], null));
         for (int a = 0; a < n; a++) {
             for (int b = 0; b < n; b++) {
                 if (a != b) {
-                    Check.due(what + ": weight(" + a + ", " + b + ")", make("weight", a, b), 1);
+                    make(new Step("weight", new int[] {a, b}, 1));
                 }
             }
         }
