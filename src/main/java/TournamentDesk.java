@@ -517,7 +517,7 @@ public final class TournamentDesk {
 
         private Board stateAt(int age) {
             int place = Math.floorMod(oldest + age, MOST_STATES);
-            return place < states.length ? states[place] : null;
+            return place >= 0 && place < states.length ? states[place] : null;
         }
 
         void record(Board board) {
@@ -1012,7 +1012,7 @@ public final class TournamentDesk {
         }
 
         private int leastWithin(int players, int set) {
-            int cost = Integer.MAX_VALUE;
+            int cost = costWithFirst(set, lowestOf(set));
             for (int first = 0; first < players; first++) {
                 if (holds(set, first)) {
                     cost = Math.min(cost, costWithFirst(set, first));

@@ -36,7 +36,7 @@ public final class FaceTest {
         Constructor<?>[] all = desk.getDeclaredConstructors();
         Check.due("constructors", all.length, 1);
         Check.due("its parameters", all[0].getParameterCount(), 0);
-        Check.holds("public constructor", Modifier.isPublic(all[0].getModifiers()));
+        Check.due("public constructor", all[0].getModifiers(), Modifier.PUBLIC);
     }
 
     private static void methods(Class<?> desk) {
@@ -71,6 +71,8 @@ public final class FaceTest {
             int modifiers = field.getModifiers();
             Check.holds("final if static: " + field, !Modifier.isStatic(modifiers) || Modifier.isFinal(modifiers));
             if (Modifier.isPublic(modifiers)) {
+                Check.due("modifiers of " + field, modifiers, Modifier.PUBLIC | Modifier.STATIC | Modifier.FINAL);
+                Check.holds("int: " + field, field.getType() == int.class);
                 open.put(field.getName(), field.getInt(null));
             } else {
                 Check.holds("private " + field, Modifier.isPrivate(modifiers));
